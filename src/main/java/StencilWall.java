@@ -376,7 +376,7 @@ public final class StencilWall {
         private int seenUnderCard;
         /** Drops sprayed since this scene was copied from another. */
         private int sprayed;
-        /** The cells that the last act made mud and that were none. */
+        /** The cells that the last spraying made mud and that were none. */
         private int muddied;
 
         private Scene() {
@@ -474,10 +474,9 @@ public final class StencilWall {
             return (seenUnderHoles & ~holesOfPrint) == 0 && (seenUnderCard & holesOfPrint) == 0;
         }
 
-        // The acts answer why they can not be, or POSSIBLE; only then they change anything but what is muddied.
+        // The acts answer why they can not be, and change nothing then; or POSSIBLE.
 
         private int spray(int card, int quarters, int colour) {
-            muddied = 0;
             int under = Turns.byQuarters(holesOf(card), quarters);
             int needed = Integer.bitCount(under);
             if (needed == 0) {
@@ -497,7 +496,6 @@ public final class StencilWall {
         }
 
         private int turnOver(int card) {
-            muddied = 0;
             int over = Turns.over(holesOf(card));
             if (over == holesOf(card)) {
                 return SAME_HOLES;
@@ -507,7 +505,6 @@ public final class StencilWall {
         }
 
         private int scrape(int cell) {
-            muddied = 0;
             if (colourOf(cell) == BARE) {
                 return BARE_ALREADY;
             }
@@ -517,7 +514,6 @@ public final class StencilWall {
         }
 
         private int waitAnHour() {
-            muddied = 0;
             if (hour >= LAST_HOUR) {
                 return TOO_LATE;
             }

@@ -17,6 +17,8 @@ public final class ChanceTest {
         fall();
         fallByCounting();
         year();
+        yearByKinds();
+        yearAtTheEnd();
         yearRefused();
         images();
         told();
@@ -64,6 +66,8 @@ public final class ChanceTest {
         duePrints(wall, 21, 71);
         wall.seen(15, true);
         duePrints(wall, 21);
+        wall.seen(12, false);
+        duePrints(wall, 21);
         wall.seen(3, false);
         duePrints(wall);
         wall.forget();
@@ -97,6 +101,11 @@ public final class ChanceTest {
             wall.card(card, card < 4 ? 65535 : 0);
         }
         dueAsk(wall, 0, 16);
+        for (int card = 0; card < 4; card++) {
+            wall.card(card, 65535 - 0x9009);
+        }
+        // the corners tell nothing
+        dueAsk(wall, 1, 16);
         for (int card = 0; card < 8; card++) {
             wall.card(card, 0x0660);
         }
@@ -128,6 +137,7 @@ public final class ChanceTest {
         Check.due("steps(12000, 1)", wall.steps(12000, 1), 11);
         Check.due("steps(2500, 1): down from step 3", wall.steps(2500, 1), 35);
         Check.due("steps(5500, 1): down from step 2", wall.steps(5500, 1), 25);
+        Check.due("steps(99999, 1)", wall.steps(99999, 1), 19);
         Check.due("steps(-1, 0)", wall.steps(-1, 0), OUTSIDE);
         Check.due("steps(100000, 0)", wall.steps(100000, 0), OUTSIDE);
         Check.due("steps(0, -1)", wall.steps(0, -1), OUTSIDE);
@@ -276,6 +286,51 @@ public final class ChanceTest {
         dueYear(wall, 67, 1, 0, 14, 1);
         wall.lay(12, 6, 1);
         dueYear(wall, 67, 1, 1, 14, 1);
+    }
+
+    private static void yearByKinds() {
+        StencilWall wall = new StencilWall();
+        wall.card(1, 0x0001);
+        wall.lay(15, 5, 1);
+        wall.lay(3, 5, 1);
+        // seed 1036: the card B is turned over, then sprayed by a quarter with colour 2: on the cell p
+        dueYear(wall, 1036, 1, 0, 14, 0);
+        dueYear(wall, 1036, 2, 1, 14, 1);
+        wall.card(1, 0x0009);
+        // now it can not be turned over: on the cells d and p
+        dueYear(wall, 1036, 2, 2, 14, 2);
+        // seed 1023: the cell p is scraped, then the card F sprayed, by two quarters, with colour 3
+        dueYear(wall, 1023, 1, 0, 15, 0);
+        wall.card(5, 0x0003);
+        dueYear(wall, 1023, 2, 0, 13, 2);
+        wall.lay(15, 0, 0);
+        dueYear(wall, 1023, 2, 0, 13, 2);
+        // seed 1010: an hour, then the card A is sprayed, with colour 4
+        wall.card(0, 0x000f);
+        dueYear(wall, 1010, 2, 0, 12, 4);
+        wall.can(4, 3);
+        dueYear(wall, 1010, 2, 0, 15, 0);
+        // seed 9999: the card E, by two quarters, with colour 4
+        wall.card(4, 0x0007);
+        wall.lay(14, 1, 1);
+        dueYear(wall, 9999, 1, 1, 12, 3);
+    }
+
+    /** At hour 99 what is wet stays wet. */
+    private static void yearAtTheEnd() {
+        StencilWall wall = new StencilWall();
+        wall.card(0, 0x000f);
+        wall.lay(3, 5, 1);
+        Check.write(wall, ".".repeat(60));
+        wall.done();
+        Check.write(wall, ".".repeat(38));
+        wall.done();
+        wall.lay(3, 5, 1);
+        dueYear(wall, 1010, 2, 0, 12, 4);
+        Check.write(wall, ".");
+        wall.done();
+        wall.lay(3, 5, 1);
+        dueYear(wall, 1010, 2, 1, 12, 4);
     }
 
     private static void yearRefused() {

@@ -46,6 +46,11 @@ public final class ShapesTest {
         duePatch(10, 0x9f93, "1102", "1001", "1111", "1001");
         duePatch(12, 0xf99f, "1111", "1001", "1001", "1111");
         duePatch(10, 0xf88f, "1111", "0001", "0001", "1111");
+        duePatch(5, 0xf8, "0001", "1111", "0000", "0000");
+        duePatch(5, 0x8f00, "0000", "0000", "1111", "0001");
+        // of one colour, a later patch is the greater
+        duePatch(4, 0xcc00, "1000", "0000", "0011", "0011");
+        duePatch(3, 0xe000, "1010", "0000", "1010", "0222");
         StencilWall wall = wallOf("1100", "0000", "0000", "0011");
         wall.lay(1, 1, 1);
         Check.due("patch: wet or dry is no matter", wall.patch(0), 2);
