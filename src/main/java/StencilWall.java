@@ -94,7 +94,7 @@ public final class StencilWall {
         if (pad.firstWrong() != NONE) {
             return NO;
         }
-        playEvening();
+        evening.play(pad, now, trial);
         return what == 0 ? evening.stoppedAt : evening.reason;
     }
 
@@ -337,17 +337,12 @@ public final class StencilWall {
         return what == 0 ? Integer.bitCount(set) : set;
     }
 
-    private void playEvening() {
-        trial.copyFrom(now);
-        evening.play(pad, trial);
-    }
-
     /** Leaves what is BEHIND the evening on the trial scene, if the evening can be. */
     private boolean eveningCanBe() {
         if (pad.firstWrong() != NONE) {
             return false;
         }
-        playEvening();
+        evening.play(pad, now, trial);
         return evening.stoppedAt == NONE;
     }
 
@@ -398,7 +393,7 @@ public final class StencilWall {
         }
 
         private int cellsOf(int colour) {
-            return within(colour, BARE, MUD) ? cellsByColour[colour] : 0;
+            return colour >= BARE && colour <= MUD ? cellsByColour[colour] : 0;
         }
 
         private int countOf(int colour) {
@@ -415,7 +410,7 @@ public final class StencilWall {
         }
 
         private int holesOf(int card) {
-            return isCard(card) ? holes[card] : 0;
+            return card >= 0 && card < CARDS ? holes[card] : 0;
         }
 
         private int holesOfAll(int cards) {
@@ -429,7 +424,7 @@ public final class StencilWall {
         }
 
         private int dropsOf(int colour) {
-            return isCan(colour) ? drops[colour] : 0;
+            return colour >= 1 && colour <= COLOURS ? drops[colour] : 0;
         }
 
         private void paint(int set, int colour) {
@@ -444,13 +439,13 @@ public final class StencilWall {
         }
 
         private void cut(int card, int set) {
-            if (isCard(card)) {
+            if (card >= 0 && card < CARDS) {
                 holes[card] = set;
             }
         }
 
         private void fill(int colour, int number) {
-            if (isCan(colour)) {
+            if (colour >= 1 && colour <= COLOURS) {
                 drops[colour] = number;
             }
         }
@@ -533,16 +528,15 @@ public final class StencilWall {
             return turned;
         }
 
-        /** To row s and place 3 less r: rows and places change parts, then the card is turned over. */
         private static int byOneQuarter(int holes) {
-            int crossed = 0;
+            int turned = 0;
             for (int row = 0; row < SIDE; row++) {
                 for (int place = 0; place < SIDE; place++) {
                     int hole = holes >> SIDE * row + place & 1;
-                    crossed |= hole << SIDE * place + row;
+                    turned |= hole << SIDE * place + SIDE - 1 - row;
                 }
             }
-            return over(crossed);
+            return turned;
         }
 
         private static int over(int holes) {
@@ -657,9 +651,10 @@ public final class StencilWall {
         private int mudAct;
         private int mudCell;
 
-        /** Stops ahead of the first act that can not be. The text has no fault. */
-        private void play(Pad pad, Scene scene) {
+        /** The text has no fault. The scene is made like the other one first, which stays as it is: nothing is done in fact. */
+        private void play(Pad pad, Scene from, Scene scene) {
             begin();
+            scene.copyFrom(from);
             int place = 0;
             for (int act = 0; act < Pad.MOST_SIGNS && place < pad.length(); act++) {
                 int why = pad.actAt(place, scene);
