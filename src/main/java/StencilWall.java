@@ -930,7 +930,8 @@ public final class StencilWall {
 
         private static int leastWinningMove(int cans) {
             for (int step = 1; step <= STEPS; step++) {
-                for (int number = 1; number <= cansOn(step, cans); number++) {
+                int there = cansOn(step, cans);
+                for (int number = 1; number <= there; number++) {
                     if (oddBits(cans, step, number) == 0) {
                         return 10 * step + number;
                     }

@@ -21,6 +21,7 @@ public final class ChanceTest {
         yearAtTheEnd();
         yearRefused();
         images();
+        twoImages();
         told();
         Check.end();
     }
@@ -370,18 +371,23 @@ public final class ChanceTest {
         Check.due("image(1)", wall.image(1), 1);
         Check.unchanged("image", wall, kept);
         Check.due("restore(0): not kept", wall.restore(0), STATE);
-        Check.unchanged("restore, refused,", wall, kept);
         changeAll(wall);
-        Check.due("image(0)", wall.image(0), 1);
-        String other = Check.fingerprint(wall);
         Check.due("restore(1)", wall.restore(1), 1);
         Check.unchanged("keeping and restoring", wall, kept);
         changeAll(wall);
         Check.due("restore(1) again", wall.restore(1), 1);
         Check.unchanged("an image stays kept; restoring", wall, kept);
+    }
+
+    private static void twoImages() {
+        StencilWall wall = painted();
+        Check.due("image(1)", wall.image(1), 1);
+        changeAll(wall);
+        Check.due("image(0)", wall.image(0), 1);
+        String other = Check.fingerprint(wall);
+        Check.due("restore(1)", wall.restore(1), 1);
         Check.due("restore(0)", wall.restore(0), 1);
         Check.unchanged("restoring the other", wall, other);
-        wall.wipe();
         Check.write(wall, ".");
         Check.due("restore(1): the pad stays", wall.restore(1), 1);
         Check.due("restore: its signs", wall.told(0), 1);

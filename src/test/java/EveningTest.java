@@ -229,9 +229,9 @@ public final class EveningTest {
     }
 
     private static void refusedBehind() {
-        StencilWall wall = ready();
-        refusedByNumbers(wall);
+        refusedByNumbers(ready());
         for (String text : new String[] {"A", "A01Q", "D01", "A02", "A01a-a-"}) {
+            StencilWall wall = ready();
             Check.write(wall, text);
             String before = Check.fingerprint(wall);
             refusedByNumbers(wall);

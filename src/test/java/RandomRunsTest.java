@@ -1,8 +1,8 @@
 import java.util.Random;
 
-/** Many runs of 512 calls, by fixed seeds: every answer is compared with that of PlainWall. */
+/** Many runs of 512 calls (an object is good for no more), by fixed seeds: every answer is compared with PlainWall's. */
 public final class RandomRunsTest {
-    private static final int RUNS = 1500, CALLS = 512;
+    private static final int RUNS = 2000, CALLS = 512, MOST_AT_ONCE = 150;
     private static final String[] ACTS = {"A", "B", "C", "D", "E", "F", "G", "H"};
 
     private final Random random;
@@ -24,7 +24,7 @@ public final class RandomRunsTest {
     }
 
     private void go() {
-        while (calls < CALLS) {
+        while (calls <= CALLS - MOST_AT_ONCE) {
             switch (random.nextInt(12)) {
                 case 0:
                     change();
@@ -55,6 +55,10 @@ public final class RandomRunsTest {
                     tell();
                     break;
             }
+        }
+        while (calls < CALLS) {
+            int what = 10 + calls % 16;
+            due("told", wall.told(what), plain.told(what));
         }
     }
 
