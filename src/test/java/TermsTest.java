@@ -25,6 +25,7 @@ public final class TermsTest {
         scraped();
         hours();
         doneAndBehind();
+        everyCellBehind();
         noMud();
         firstMud();
         patchOfABareWall();
@@ -41,6 +42,8 @@ public final class TermsTest {
         madeByNoOrder();
         madeFirstOrder();
         eightSights();
+        sightsTwice();
+        sightsThatWent();
         printsWhereNothingFits();
         askWhereNothingFits();
         askTheLeast();
@@ -51,8 +54,13 @@ public final class TermsTest {
         fallMean();
         yearOfScraping();
         yearOfOneAct();
+        yearByQuartersAndColours();
+        yearTurnedOver();
         yearOfHours();
         yearIsNotDone();
+        imagesKeepAllButThePad();
+        imagesAreTwo();
+        imagesStayKept();
         the512thCall();
         Check.end();
     }
@@ -435,6 +443,18 @@ public final class TermsTest {
         Check.due("left(2)", wall.left(2), 679);
     }
 
+    private static void everyCellBehind() {
+        for (int cell = 0; cell < 16; cell++) {
+            Check.of(10, "of each CELL its COLOUR, whether it is WET");
+            StencilWall wall = withCards(1 << cell);
+            saying(wall, "A05");
+            for (int other = 0; other < 16; other++) {
+                Check.due("behind(" + other + ", 0)", wall.behind(other, 0), other == cell ? 5 : 0);
+                Check.due("behind(" + other + ", 1)", wall.behind(other, 1), other == cell ? 1 : 0);
+            }
+        }
+    }
+
     private static void dueMud(StencilWall wall, String text, int act, int cell) {
         saying(wall, text);
         Check.due("then(5) of " + text, wall.then(5), act);
@@ -536,6 +556,10 @@ public final class TermsTest {
         Check.of(14, "of one COLOUR: bare CELLS and other COLOURS part it");
         dueShapes("1101 0000 0000 0000", 0x0003, 0x0003);
         dueShapes("1121 0000 0000 0000", 0x0003, 0x0003);
+        Check.of(14, "a patch that is found from its right");
+        dueShapes("0100 1100 0000 0000", 0x0032, 0x0022);
+        dueShapes("0010 0111 0000 0000", 0x00e4, 0x00e0);
+        dueShapes("0001 1111 0000 0000", 0x00f8, 0x00f0);
         Check.of(14, "a patch that winds through all rows");
         dueShapes("1111 0001 1111 1000", 0x1f8f, 0x000f);
         dueShapes("1011 1010 1010 1110", 0x755d, 0x1111);
@@ -626,6 +650,9 @@ public final class TermsTest {
         dueCover(withCards(0, 3, 3, 3, 3, 3, 3, 3), 3, 1, 2);
         dueCover(withCards(1, 2, 1, 2, 1, 2, 1, 2), 3, 2, 3);
         dueCover(withCards(1, 4, 4, 2, 4, 4, 3, 4), 7, 2, 66);
+        Check.of(16, "HOLES that two CARDS have");
+        dueCover(withCards(3, 6), 7, 2, 3);
+        dueCover(withCards(0x0fff, 0xfff0), 65535, 2, 3);
         Check.of(16, "more HOLES are no matter");
         dueCover(withCards(0, 0, 0, 0, 0, 0, 0, 65535), 1, 1, 128);
         dueCover(withCards(0, 0, 0, 0, 0, 0, 0, 65535), 65535, 1, 128);
@@ -768,6 +795,33 @@ public final class TermsTest {
         }
     }
 
+    private static void sightsTwice() {
+        Check.of(19, "the same SIGHT twice is two, and is so still");
+        StencilWall wall = withCards(1);
+        Check.due("seen(0, true)", wall.seen(0, true), 1);
+        Check.due("seen(0, true)", wall.seen(0, true), 2);
+        Check.due("prints(-1)", wall.prints(-1), 1);
+        wall.forget();
+        Check.due("seen(0, false)", wall.seen(0, false), 1);
+        Check.due("seen(0, false)", wall.seen(0, false), 2);
+        Check.due("prints(-1)", wall.prints(-1), 31);
+    }
+
+    private static void sightsThatWent() {
+        for (int cell = 0; cell < 16; cell++) {
+            Check.of(20, "SIGHTS go, of HOLES and of none");
+            StencilWall wall = withCards(65535);
+            wall.seen(cell, false);
+            Check.due("prints(-1)", wall.prints(-1), 28);
+            wall.forget();
+            Check.due("prints(-1)", wall.prints(-1), 32);
+            wall.seen(cell, true);
+            Check.due("prints(-1)", wall.prints(-1), 4);
+            wall.forget();
+            Check.due("prints(-1)", wall.prints(-1), 32);
+        }
+    }
+
     private static void printsWhereNothingFits() {
         Check.of(21, "PRINTS where nothing fits");
         StencilWall wall = new StencilWall();
@@ -811,6 +865,10 @@ public final class TermsTest {
         StencilWall wall = withCards(65535, 65535, 65535, 65535);
         Check.due("ask(0)", wall.ask(0), 0);
         Check.due("ask(1)", wall.ask(1), 16);
+        Check.of(22, "each CELL");
+        for (int cell = 0; cell < 16; cell++) {
+            dueAskEach(cell);
+        }
         Check.of(22, "the last CELL");
         StencilWall last = withCards(0, 0, 0, 0, 0, 0, 0, 0x8000);
         last.seen(0, false);
@@ -824,6 +882,17 @@ public final class TermsTest {
         StencilWall few = withCards(65535, 65535, 65535, 65535, 65535, 65535, 65535, 65534);
         Check.due("ask(0)", few.ask(0), 0);
         Check.due("ask(1)", few.ask(1), 31);
+    }
+
+    /** Of the print that has the cell, and others without a hole; its other quarters were seen not to be. */
+    private static void dueAskEach(int cell) {
+        StencilWall wall = withCards(1 << cell);
+        for (int quarters = 1; quarters <= 3; quarters++) {
+            wall.seen(Integer.numberOfTrailingZeros(wall.turned(0, quarters)), false);
+        }
+        Check.due("prints(-1)", wall.prints(-1), 29);
+        Check.due("ask(0)", wall.ask(0), cell);
+        Check.due("ask(1)", wall.ask(1), 28);
     }
 
     private static void dueSteps(int cans, int whether, int what) {
@@ -987,6 +1056,49 @@ public final class TermsTest {
         }
     }
 
+    /** One corner is wet: there is mud just if the card, by its quarters, has its hole there, and the colour is another. */
+    private static void yearByQuartersAndColours() {
+        Check.of(25, "turned by y by 8 (cut) left over by 4, with COLOUR 1 and y by 32 (cut) left over by 5");
+        int[] corners = {0, 3, 15, 12};
+        for (int seed = 0; seed <= 9999; seed++) {
+            int[] draw = draws(seed, 1).get(0);
+            if (draw[0] > 4) {
+                continue;
+            }
+            int quarters = draw[1] / 8 % 4;
+            int colour = 1 + draw[1] / 32 % 5;
+            StencilWall wall = withCards(1, 1, 1, 1, 1, 1, 1, 1);
+            wall.lay(corners[quarters], colour, 1);
+            Check.due("of its colour: year(" + seed + ", 1, 0)", wall.year(seed, 1, 0), 0);
+            Check.due("of its colour: year(" + seed + ", 1, 1)", wall.year(seed, 1, 1), 15);
+            wall.lay(corners[quarters], colour % 5 + 1, 1);
+            Check.due("of another: year(" + seed + ", 1, 0)", wall.year(seed, 1, 0), 1);
+            Check.due("of another: year(" + seed + ", 1, 1)", wall.year(seed, 1, 1), 15);
+        }
+    }
+
+    /** The first draw turns a card over, the second sprays the same one. */
+    private static void yearTurnedOver() {
+        Check.of(25, "5 it is turned over, if that can be");
+        for (int seed = 0; seed <= 9999; seed++) {
+            int[] first = draws(seed, 2).get(0);
+            int[] second = draws(seed, 2).get(1);
+            if (first[0] != 5 || second[0] > 4 || first[1] % 8 != second[1] % 8) {
+                continue;
+            }
+            int card = first[1] % 8;
+            StencilWall wall = new StencilWall();
+            wall.card(card, 0x0100);
+            int over = wall.turned(card, 4 + second[1] / 8 % 4);
+            wall.lay(Integer.numberOfTrailingZeros(over), 6, 1);
+            Check.due("year(" + seed + ", 2, 1)", wall.year(seed, 2, 1), 15);
+            Check.due("year(" + seed + ", 2, 2)", wall.year(seed, 2, 2), 1);
+            wall.card(card, 0x0900);
+            Check.due("with the same holes: year(" + seed + ", 2, 2)", wall.year(seed, 2, 2), 2);
+            Check.due("it is not in fact", wall.told(30 + card), 0x0900);
+        }
+    }
+
     /** The hour counts from what it is: a year that waits at hour 98 and sprays dries the wall, at hour 99 not. */
     private static void yearOfHours() {
         Check.of(25, "from all as it is, hour 99 too");
@@ -1019,6 +1131,88 @@ public final class TermsTest {
         Check.of(25, "a FAULT on the PAD is no matter");
         StencilWall wall = saying(withCards(1, 1), "?");
         Check.due("year(0, 1, 2)", wall.year(0, 1, 2), 1);
+    }
+
+    /** Every part of the state is another one than when it was kept. */
+    private static void changeAll(StencilWall wall) {
+        wall.wipe();
+        Rich.say(wall, "..");
+        wall.done();
+        for (int cell = 0; cell < 16; cell++) {
+            wall.lay(cell, (wall.told(10 + cell) + 1) % 6 + 1, (wall.told(1) >> cell & 1) ^ 1);
+        }
+        for (int card = 0; card < 8; card++) {
+            wall.card(card, wall.told(30 + card) ^ 1);
+        }
+        for (int colour = 1; colour <= 5; colour++) {
+            wall.can(colour, 999 - wall.told(40 + colour));
+        }
+        wall.forget();
+        wall.seen(2, true);
+    }
+
+    private static String state(StencilWall wall) {
+        wall.wipe();
+        return Check.fingerprint(wall);
+    }
+
+    private static void imagesKeepAllButThePad() {
+        for (int n = 0; n <= 1; n++) {
+            Check.of(26, "all but the PAD is kept");
+            StencilWall wall = Rich.wall();
+            Check.due("image(" + n + ")", wall.image(n), 1);
+            Check.due("signs stay", wall.told(0), 14);
+            String kept = state(wall);
+            changeAll(wall);
+            Check.that("all is changed", !state(wall).equals(kept));
+            Check.of(27, "it is as it was when it was kept, but the PAD");
+            wall.say('A');
+            Check.due("restore(" + n + ")", wall.restore(n), 1);
+            Check.due("signs", wall.told(0), 1);
+            Check.due("fault()", wall.fault(), 1);
+            Check.that("restore(" + n + ")", state(wall).equals(kept));
+        }
+    }
+
+    private static void imagesAreTwo() {
+        Check.of(27, "each of the two as it was");
+        for (int n = 0; n <= 1; n++) {
+            StencilWall wall = new StencilWall();
+            wall.lay(7, 1, 1);
+            wall.image(n);
+            wall.lay(7, 2, 0);
+            wall.image(1 - n);
+            wall.lay(7, 3, 1);
+            Check.due("restore(" + n + ")", wall.restore(n), 1);
+            Check.due("told(17)", wall.told(17), 1);
+            Check.due("told(1)", wall.told(1), 128);
+            Check.due("restore(" + (1 - n) + ")", wall.restore(1 - n), 1);
+            Check.due("told(17)", wall.told(17), 2);
+            Check.due("told(1)", wall.told(1), 0);
+        }
+    }
+
+    private static void imagesStayKept() {
+        for (int n = 0; n <= 1; n++) {
+            Check.of(27, "an IMAGE stays kept, whatever is done to what was restored");
+            StencilWall wall = new StencilWall();
+            wall.image(n);
+            for (int i = 0; i < 2; i++) {
+                wall.card(7, 9);
+                wall.can(5, 9);
+                wall.seen(9, true);
+                Check.due("restore(" + n + ")", wall.restore(n), 1);
+                Check.due("told(37)", wall.told(37), 0);
+                Check.due("told(45)", wall.told(45), 50);
+                Check.due("told(3)", wall.told(3), 0);
+            }
+            Check.of(26, "kept once more, it is the later one");
+            wall.card(7, 9);
+            Check.due("image(" + n + ")", wall.image(n), 1);
+            wall.card(7, 8);
+            wall.restore(n);
+            Check.due("told(37)", wall.told(37), 9);
+        }
     }
 
     /** The 512th call is as good as the first. */
