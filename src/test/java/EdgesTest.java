@@ -9,6 +9,7 @@ public final class EdgesTest {
     private static final String[] STOPS = {"D01", "A03", "A~", "b-", "B14D~", "H02"};
 
     public static void main(String[] args) {
+        promise1();
         theRichWall();
         promise2();
         promise3();
@@ -36,6 +37,33 @@ public final class EdgesTest {
         promise27();
         promise28();
         Check.end();
+    }
+
+    private static void promise1() {
+        StencilWall wall = new StencilWall();
+        Check.of(1, "all is bare, and dry");
+        for (int cell = 0; cell < 16; cell++) {
+            Check.due("told(" + (10 + cell) + ")", wall.told(10 + cell), 0);
+        }
+        Check.due("told(1)", wall.told(1), 0);
+        Check.of(1, "CARDS have no HOLES");
+        for (int card = 0; card < 8; card++) {
+            Check.due("told(" + (30 + card) + ")", wall.told(30 + card), 0);
+        }
+        Check.of(1, "50 DROPS of each COLOUR at first");
+        for (int colour = 1; colour <= 5; colour++) {
+            Check.due("told(" + (40 + colour) + ")", wall.told(40 + colour), 50);
+        }
+        Check.of(1, "no signs, hour 0, no SIGHTS, no IMAGE at first");
+        Check.due("told(0)", wall.told(0), 0);
+        Check.due("told(2)", wall.told(2), 0);
+        Check.due("told(3)", wall.told(3), 0);
+        Check.due("restore(0)", wall.restore(0), STATE);
+        Check.due("restore(1)", wall.restore(1), STATE);
+        Check.of(1, "what is done to one object is not done to another");
+        Rich.wall();
+        Check.due("told(10)", wall.told(10), 0);
+        Check.due("told(30)", new StencilWall().told(30), 0);
     }
 
     private static void theRichWall() {
