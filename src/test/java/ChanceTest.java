@@ -304,6 +304,10 @@ public final class ChanceTest {
         dueYear(wall, 1023, 1, 0, 15, 0);
         wall.card(5, 0x0003);
         dueYear(wall, 1023, 2, 0, 13, 2);
+        // scraping takes no hour: the cell o is wet still, and goes to mud
+        wall.lay(14, 5, 1);
+        dueYear(wall, 1023, 2, 1, 13, 2);
+        wall.lay(14, 0, 0);
         wall.lay(15, 0, 0);
         dueYear(wall, 1023, 2, 0, 13, 2);
         // seed 1010: an hour, then the card A is sprayed, with colour 4
